@@ -138,16 +138,12 @@ public final class TrackMarket {
 
     // The range is looked at first because a shift would take j modulo 32.
     private boolean isPresent(int j) {
-        return 0 <= j && j < MOST_JOBS && contains(present, j);
-    }
-
-    private boolean contains(int set, int j) {
-        return (set >> j & 1) == 1;
+        return 0 <= j && j < MOST_JOBS && (present & 1 << j) != 0;
     }
 
     private int leastFreeNumber() {
         for (int j = 0; j < MOST_JOBS; j++) {
-            if (!contains(present, j)) {
+            if ((present & 1 << j) == 0) {
                 return j;
             }
         }
@@ -185,7 +181,7 @@ public final class TrackMarket {
     private int worthOf(int set) {
         int sum = 0;
         for (int j = 0; j < MOST_JOBS; j++) {
-            if (contains(set, j)) {
+            if ((set & 1 << j) != 0) {
                 sum += worths[j];
             }
         }
@@ -207,7 +203,7 @@ public final class TrackMarket {
     private int countAt(int set, int t) {
         int count = 0;
         for (int j = 0; j < MOST_JOBS; j++) {
-            if (contains(set, j) && starts[j] <= t && t < ends[j]) {
+            if ((set & 1 << j) != 0 && starts[j] <= t && t < ends[j]) {
                 count++;
             }
         }
