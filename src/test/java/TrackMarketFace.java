@@ -11,7 +11,9 @@ public final class TrackMarketFace {
     private static int wrong = 0;
 
     public static void main(String[] args) throws ReflectiveOperationException {
-        due("class", Modifier.toString(TrackMarket.class.getModifiers()), "public final");
+        due("class", TrackMarket.class.toGenericString(), "public final class TrackMarket");
+        due("class above it", TrackMarket.class.getSuperclass(), Object.class);
+        due("interfaces", TrackMarket.class.getInterfaces().length, 0);
         due("nested classes", TrackMarket.class.getDeclaredClasses().length, 0);
         due("methods", visibleMethods(), new TreeSet<>(Set.of(
             "public int bring(int,int,int)", "public boolean take(int)", "public boolean revalue(int,int)",
